@@ -2,12 +2,15 @@
 public final class CheckTest {
     public static void main(String[] args) {
         answers();
-        keptStates();
-        wrongNumbers();
+        everyState();
+        personOutside();
+        groupOutside();
         badComesBeforeGone();
+        questionsChangeNothing();
         Due.end();
     }
 
+    /** "Whether a person belongs to a group in a state: 1 or 0." */
     private static void answers() {
         RelationTuples x = new RelationTuples();
         x.enter(5, 17, true);
@@ -25,46 +28,63 @@ public final class CheckTest {
         Due.answer("check(0, 5, 17)", x.check(0, 5, 17), 0);
     }
 
-    private static void keptStates() {
-        RelationTuples x = new RelationTuples();
-        x.enter(0, 0, true);
-        Due.pass(x, 6);
-        Due.answer("check(0, 0, 0) at state 7", x.check(0, 0, 0), 0);
-        Due.answer("check(1, 0, 0) at state 7", x.check(1, 0, 0), 1);
-        Due.pass(x, 1);
-        Due.answer("check(0, 0, 0) at state 8", x.check(0, 0, 0), RelationTuples.GONE);
-        Due.answer("check(1, 0, 0) at state 8", x.check(1, 0, 0), 1);
-        Due.answer("check(8, 0, 0) at state 8", x.check(8, 0, 0), 1);
-        Due.answer("check(9, 0, 0) at state 8", x.check(9, 0, 0), RelationTuples.BAD);
-        Due.pass(x, 1);
-        Due.answer("check(1, 0, 0) at state 9", x.check(1, 0, 0), RelationTuples.GONE);
+    /** ".. there is no such state: BAD; the state is not kept: GONE.": below 0, the oldest, the latest, beside them. */
+    private static void everyState() {
+        Edges.everyState("check", (x, number) -> x.enter(4, 11, number % 3 == 1),
+                (x, state) -> x.check(state, 4, 11), state -> state % 3 == 1 ? 1 : 0);
     }
 
-    private static void wrongNumbers() {
-        RelationTuples x = new RelationTuples();
-        int[] wrongPersons = {-1, 6, 32, Integer.MIN_VALUE, Integer.MAX_VALUE};
-        int[] wrongGroups = {-1, 18, 32, Integer.MIN_VALUE, Integer.MAX_VALUE};
-        int[] wrongStates = {-1, 1, 8, Integer.MIN_VALUE, Integer.MAX_VALUE};
-        for (int person : wrongPersons) {
-            Due.answer("check(0, " + person + ", 0)", x.check(0, person, 0), RelationTuples.BAD);
-        }
-        for (int group : wrongGroups) {
-            Due.answer("check(0, 0, " + group + ")", x.check(0, 0, group), RelationTuples.BAD);
-        }
-        for (int state : wrongStates) {
-            Due.answer("check(" + state + ", 0, 0)", x.check(state, 0, 0), RelationTuples.BAD);
+    /** "Tested in this order: person outside 0..5, ..": the person by itself. */
+    private static void personOutside() {
+        for (int person : Edges.outside(6)) {
+            bad(Edges.LATEST, person, 0);
+            bad(Edges.LATEST, person, 17);
+            bad(Edges.OLDEST, person, 0);
         }
     }
 
+    /** ".. group outside 0..17, ..": the group by itself. */
+    private static void groupOutside() {
+        for (int group : Edges.outside(18)) {
+            bad(Edges.LATEST, 0, group);
+            bad(Edges.LATEST, 5, group);
+            bad(Edges.OLDEST, 0, group);
+        }
+    }
+
+    /** "Tested in this order: ..": at a state that is not kept, a wrong person or group is BAD, not GONE. */
     private static void badComesBeforeGone() {
-        RelationTuples x = new RelationTuples();
-        Due.pass(x, 20);
-        Due.answer("check(12, 0, 0)", x.check(12, 0, 0), RelationTuples.GONE);
-        Due.answer("check(13, 0, 0)", x.check(13, 0, 0), 0);
-        Due.answer("check(12, 6, 0)", x.check(12, 6, 0), RelationTuples.BAD);
-        Due.answer("check(12, -1, 0)", x.check(12, -1, 0), RelationTuples.BAD);
-        Due.answer("check(12, 0, 18)", x.check(12, 0, 18), RelationTuples.BAD);
-        Due.answer("check(12, 0, -1)", x.check(12, 0, -1), RelationTuples.BAD);
-        Due.answer("check(-1, 0, 0)", x.check(-1, 0, 0), RelationTuples.BAD);
+        for (int state = 0; state <= Edges.NOT_KEPT; state++) {
+            gone(state, 0, 0);
+            gone(state, 5, 17);
+            for (int person : Edges.outside(6)) {
+                bad(state, person, 0);
+            }
+            for (int group : Edges.outside(18)) {
+                bad(state, 0, group);
+            }
+            bad(state, 6, 18);
+        }
+        bad(-1, 6, 18);
+        bad(Edges.LATEST + 1, -1, -1);
+    }
+
+    private static void questionsChangeNothing() {
+        Edges.leavesAll("check(12, 2, 13)", x -> x.check(12, 2, 13), 1);
+        Edges.leavesAll("check(12, 0, 0)", x -> x.check(12, 0, 0), 0);
+        Edges.leavesAll("check(4, 0, 0)", x -> x.check(4, 0, 0), RelationTuples.GONE);
+        Edges.leavesAll("check(13, 0, 0)", x -> x.check(13, 0, 0), RelationTuples.BAD);
+    }
+
+    private static void bad(int state, int person, int group) {
+        Due.bad(name(state, person, group), Edges.usedObject().check(state, person, group));
+    }
+
+    private static void gone(int state, int person, int group) {
+        Due.gone(name(state, person, group), Edges.usedObject().check(state, person, group));
+    }
+
+    private static String name(int state, int person, int group) {
+        return "check(" + state + ", " + person + ", " + group + ") at latest state " + Edges.LATEST;
     }
 }

@@ -12,6 +12,14 @@ final class Due {
         }
     }
 
+    static void bad(String call, int got) {
+        answer(call, got, RelationTuples.BAD);
+    }
+
+    static void gone(String call, int got) {
+        answer(call, got, RelationTuples.GONE);
+    }
+
     static void holds(String claim, boolean truth) {
         if (!truth) {
             wrong++;

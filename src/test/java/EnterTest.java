@@ -3,11 +3,16 @@ public final class EnterTest {
     public static void main(String[] args) {
         everyCouple();
         entersAndStrikesOut();
-        changesThatChangeNothing();
-        wrongNumbers();
+        anEntryIsThereOnce();
+        strikingOutWhatIsNotThere();
+        personOutside();
+        groupOutside();
+        bothOutside();
+        numberOfTheNewState();
         Due.end();
     }
 
+    /** "Enters a person in a group (true), or strikes the entry out.": persons 0 to 5 and groups 0 to 17. */
     private static void everyCouple() {
         for (int person = 0; person < 6; person++) {
             for (int group = 0; group < 18; group++) {
@@ -38,31 +43,69 @@ public final class EnterTest {
         Due.answer("members(0, 4) later", x.members(0, 4), 0);
     }
 
-    private static void changesThatChangeNothing() {
+    /** "Enters a person in a group (true), or strikes the entry out.": entered twice, struck out once. */
+    private static void anEntryIsThereOnce() {
+        RelationTuples x = new RelationTuples();
+        Due.answer("entering", x.enter(1, 1, true), 1);
+        Due.answer("entering again", x.enter(1, 1, true), 2);
+        Due.answer("members(2, 1)", x.members(2, 1), 1 << 1);
+        Due.answer("one striking out suffices", x.enter(1, 1, false), 3);
+        Due.answer("members(3, 1)", x.members(3, 1), 0);
+    }
+
+    /** "Enters a person in a group (true), or strikes the entry out.": there is none to strike out. */
+    private static void strikingOutWhatIsNotThere() {
         RelationTuples x = new RelationTuples();
         Due.answer("striking out no entry", x.enter(1, 1, false), 1);
         Due.answer("members(1, 1)", x.members(1, 1), 0);
-        Due.answer("entering", x.enter(1, 1, true), 2);
-        Due.answer("entering again", x.enter(1, 1, true), 3);
-        Due.answer("one striking out suffices", x.enter(1, 1, false), 4);
-        Due.answer("members(4, 1)", x.members(4, 1), 0);
+        x.enter(2, 1, true);
+        Due.answer("striking out no entry beside one", x.enter(1, 1, false), 3);
+        Due.answer("members(3, 1)", x.members(3, 1), 1 << 2);
+        x.nest(1, 4, true);
+        Due.answer("striking out one who belongs without an entry", x.enter(2, 4, false), 5);
+        Due.answer("members(5, 4)", x.members(5, 4), 1 << 2);
     }
 
-    private static void wrongNumbers() {
+    /** "person outside 0..5 or group outside 0..17: BAD.": the person by itself. */
+    private static void personOutside() {
+        for (int person : Edges.outside(6)) {
+            for (int group = 0; group <= 17; group += 17) {
+                refused(person, group);
+            }
+        }
+    }
+
+    /** "person outside 0..5 or group outside 0..17: BAD.": the group by itself. */
+    private static void groupOutside() {
+        for (int group : Edges.outside(18)) {
+            for (int person = 0; person <= 5; person += 5) {
+                refused(person, group);
+            }
+        }
+    }
+
+    /** "person outside 0..5 or group outside 0..17: BAD.": both at once. */
+    private static void bothOutside() {
+        refused(-1, -1);
+        refused(-1, 18);
+        refused(6, -1);
+        refused(6, 18);
+    }
+
+    private static void refused(int person, int group) {
+        String couple = person + ", " + group;
+        Edges.refused("enter(" + couple + ", true)", x -> x.enter(person, group, true));
+        Edges.refused("enter(" + couple + ", false)", x -> x.enter(person, group, false));
+    }
+
+    /** "Else answers the number of the new state.": refused calls between count for nothing. */
+    private static void numberOfTheNewState() {
         RelationTuples x = new RelationTuples();
-        int[] wrongPersons = {-1, 6, 31, 32, Integer.MIN_VALUE, Integer.MAX_VALUE};
-        int[] wrongGroups = {-1, 18, 32, Integer.MIN_VALUE, Integer.MAX_VALUE};
-        for (int person : wrongPersons) {
-            Due.answer("enter(" + person + ", 0, true)", x.enter(person, 0, true), RelationTuples.BAD);
-            Due.answer("enter(" + person + ", 0, false)", x.enter(person, 0, false), RelationTuples.BAD);
-        }
-        for (int group : wrongGroups) {
-            Due.answer("enter(0, " + group + ", true)", x.enter(0, group, true), RelationTuples.BAD);
-            Due.answer("enter(0, " + group + ", false)", x.enter(0, group, false), RelationTuples.BAD);
-        }
-        Due.answer("a BAD enter makes no state", x.latest(), 0);
-        for (int group = 0; group < 18; group++) {
-            Due.answer("a BAD enter enters nobody in " + group, x.members(0, group), 0);
+        for (int number = 1; number <= 40; number++) {
+            Due.answer("enter as change " + number, x.enter(number % 6, number % 18, number % 5 != 0), number);
+            Due.answer("latest() after change " + number, x.latest(), number);
+            Due.bad("enter(6, 0, true) after change " + number, x.enter(6, 0, true));
+            Due.bad("enter(0, -1, false) after change " + number, x.enter(0, -1, false));
         }
     }
 }

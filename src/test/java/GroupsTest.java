@@ -2,8 +2,11 @@
 public final class GroupsTest {
     public static void main(String[] args) {
         answers();
-        keptStates();
-        wrongNumbers();
+        noneAndAll();
+        everyState();
+        personOutside();
+        badComesBeforeGone();
+        questionsChangeNothing();
         Due.end();
     }
 
@@ -22,37 +25,72 @@ public final class GroupsTest {
         Due.answer("groups(5, 1)", x.groups(5, 1), 1 | (1 << 17) | (1 << 4) | (1 << 5));
         Due.answer("groups(5, 2)", x.groups(5, 2), (1 << 4) | (1 << 5));
         Due.answer("groups(3, 1) later", x.groups(3, 1), 1 | (1 << 17));
+    }
+
+    /** ".. as a set (bit g speaks of group g).": the empty set, the first and the last bit, and the full set. */
+    private static void noneAndAll() {
+        RelationTuples x = new RelationTuples();
+        for (int person = 0; person < 6; person++) {
+            Due.answer("none: groups(0, " + person + ")", x.groups(0, person), 0);
+        }
+        x.enter(0, 0, true);
+        x.enter(5, 17, true);
+        Due.answer("the first: groups(2, 0)", x.groups(2, 0), 1);
+        Due.answer("the last: groups(2, 5)", x.groups(2, 5), 1 << 17);
         for (int group = 0; group < 18; group++) {
-            x.enter(5, group, true);
+            x.enter(3, group, true);
         }
-        Due.answer("groups(23, 5)", x.groups(23, 5), (1 << 18) - 1);
+        Due.answer("all: groups(20, 3)", x.groups(20, 3), (1 << 18) - 1);
+        Due.answer("all of one person: groups(20, 4)", x.groups(20, 4), 0);
+        for (int group = 0; group < 18; group++) {
+            x.enter(3, group, false);
+        }
+        Due.answer("none again: groups(38, 3)", x.groups(38, 3), 0);
     }
 
-    private static void keptStates() {
-        RelationTuples x = new RelationTuples();
-        for (int i = 1; i <= 18; i++) {
-            x.enter(3, i - 1, true);
-            for (int state = 0; state <= i; state++) {
-                int want = state + 8 > i ? (1 << state) - 1 : RelationTuples.GONE;
-                Due.answer("groups(" + state + ", 3) at state " + i, x.groups(state, 3), want);
+    /** ".. there is no such state: BAD; the state is not kept: GONE.": below 0, the oldest, the latest, beside them. */
+    private static void everyState() {
+        Edges.everyState("groups", (x, number) -> x.enter(3, number % 18, Edges.goesIn(number, 18)),
+                (x, state) -> x.groups(state, 3), state -> Edges.setAfter(state, 18));
+    }
+
+    /** "Tested in this order: person outside 0..5 ..: BAD" */
+    private static void personOutside() {
+        for (int person : Edges.outside(6)) {
+            bad(Edges.LATEST, person);
+            bad(Edges.OLDEST, person);
+        }
+    }
+
+    /** "Tested in this order: ..": at a state that is not kept, a wrong person is BAD, not GONE. */
+    private static void badComesBeforeGone() {
+        for (int state = 0; state <= Edges.NOT_KEPT; state++) {
+            gone(state, 0);
+            gone(state, 5);
+            for (int person : Edges.outside(6)) {
+                bad(state, person);
             }
-            Due.answer("groups(" + (i + 1) + ", 3) at state " + i, x.groups(i + 1, 3), RelationTuples.BAD);
         }
+        bad(-1, 6);
+        bad(Edges.LATEST + 1, -1);
     }
 
-    private static void wrongNumbers() {
-        RelationTuples x = new RelationTuples();
-        Due.pass(x, 9);
-        int[] wrongPersons = {-1, 6, 32, Integer.MIN_VALUE, Integer.MAX_VALUE};
-        int[] wrongStates = {-1, 10, Integer.MIN_VALUE, Integer.MAX_VALUE};
-        for (int person : wrongPersons) {
-            Due.answer("groups(9, " + person + ")", x.groups(9, person), RelationTuples.BAD);
-            Due.answer("groups(1, " + person + ")", x.groups(1, person), RelationTuples.BAD);
-        }
-        for (int state : wrongStates) {
-            Due.answer("groups(" + state + ", 0)", x.groups(state, 0), RelationTuples.BAD);
-        }
-        Due.answer("groups(1, 0)", x.groups(1, 0), RelationTuples.GONE);
-        Due.answer("groups(2, 0)", x.groups(2, 0), 0);
+    private static void questionsChangeNothing() {
+        Edges.leavesAll("groups(12, 2)", x -> x.groups(12, 2), 1 << 13);
+        Edges.leavesAll("groups(12, 1)", x -> x.groups(12, 1), 0);
+        Edges.leavesAll("groups(4, 0)", x -> x.groups(4, 0), RelationTuples.GONE);
+        Edges.leavesAll("groups(13, 0)", x -> x.groups(13, 0), RelationTuples.BAD);
+    }
+
+    private static void bad(int state, int person) {
+        Due.bad(name(state, person), Edges.usedObject().groups(state, person));
+    }
+
+    private static void gone(int state, int person) {
+        Due.gone(name(state, person), Edges.usedObject().groups(state, person));
+    }
+
+    private static String name(int state, int person) {
+        return "groups(" + state + ", " + person + ") at latest state " + Edges.LATEST;
     }
 }

@@ -2,8 +2,11 @@
 public final class MembersTest {
     public static void main(String[] args) {
         answers();
-        keptStates();
-        wrongNumbers();
+        nobodyAndEverybody();
+        everyState();
+        groupOutside();
+        badComesBeforeGone();
+        questionsChangeNothing();
         Due.end();
     }
 
@@ -22,42 +25,71 @@ public final class MembersTest {
         x.rule(0, 1, true);
         Due.answer("members by a rule", x.members(11, 16), 0b100010);
         Due.answer("members that no rule adds", x.members(11, 17), 0b100111);
+    }
+
+    /** ".. as a set (bit p speaks of person p).": the empty set, each bit by itself, and the full set. */
+    private static void nobodyAndEverybody() {
+        RelationTuples x = new RelationTuples();
+        for (int group = 0; group < 18; group++) {
+            Due.answer("nobody: members(0, " + group + ")", x.members(0, group), 0);
+        }
+        for (int person = 0; person < 6; person++) {
+            x.enter(person, 3 * person, true);
+            Due.answer("one: members(" + (person + 1) + ")", x.members(person + 1, 3 * person), 1 << person);
+        }
         for (int person = 0; person < 6; person++) {
             x.enter(person, 8, true);
         }
-        Due.answer("members: everybody", x.members(17, 8), 0b111111);
+        Due.answer("everybody: members(12, 8)", x.members(12, 8), 0b111111);
+        for (int person = 0; person < 6; person++) {
+            x.enter(person, 8, false);
+        }
+        Due.answer("nobody again: members(18, 8)", x.members(18, 8), 0);
     }
 
-    private static void keptStates() {
-        RelationTuples x = new RelationTuples();
-        for (int i = 1; i <= 30; i++) {
-            x.enter(i % 6, 9, (i / 6) % 2 == 0);
-            int[] wants = new int[i + 1];
-            for (int state = 1; state <= i; state++) {
-                int bit = 1 << (state % 6);
-                wants[state] = (state / 6) % 2 == 0 ? wants[state - 1] | bit : wants[state - 1] & ~bit;
-            }
-            for (int state = 0; state <= i; state++) {
-                int want = state + 8 > i ? wants[state] : RelationTuples.GONE;
-                Due.answer("members(" + state + ", 9) at state " + i, x.members(state, 9), want);
-            }
-            Due.answer("members(" + (i + 1) + ", 9) at state " + i, x.members(i + 1, 9), RelationTuples.BAD);
+    /** ".. there is no such state: BAD; the state is not kept: GONE.": below 0, the oldest, the latest, beside them. */
+    private static void everyState() {
+        Edges.everyState("members", (x, number) -> x.enter(number % 6, 9, Edges.goesIn(number, 6)),
+                (x, state) -> x.members(state, 9), state -> Edges.setAfter(state, 6));
+    }
+
+    /** "Tested in this order: group outside 0..17 ..: BAD" */
+    private static void groupOutside() {
+        for (int group : Edges.outside(18)) {
+            bad(Edges.LATEST, group);
+            bad(Edges.OLDEST, group);
         }
     }
 
-    private static void wrongNumbers() {
-        RelationTuples x = new RelationTuples();
-        Due.pass(x, 9);
-        int[] wrongGroups = {-1, 18, 32, Integer.MIN_VALUE, Integer.MAX_VALUE};
-        int[] wrongStates = {-1, 10, Integer.MIN_VALUE, Integer.MAX_VALUE};
-        for (int group : wrongGroups) {
-            Due.answer("members(9, " + group + ")", x.members(9, group), RelationTuples.BAD);
-            Due.answer("members(1, " + group + ")", x.members(1, group), RelationTuples.BAD);
+    /** "Tested in this order: ..": at a state that is not kept, a wrong group is BAD, not GONE. */
+    private static void badComesBeforeGone() {
+        for (int state = 0; state <= Edges.NOT_KEPT; state++) {
+            gone(state, 0);
+            gone(state, 17);
+            for (int group : Edges.outside(18)) {
+                bad(state, group);
+            }
         }
-        for (int state : wrongStates) {
-            Due.answer("members(" + state + ", 0)", x.members(state, 0), RelationTuples.BAD);
-        }
-        Due.answer("members(1, 0)", x.members(1, 0), RelationTuples.GONE);
-        Due.answer("members(2, 0)", x.members(2, 0), 0);
+        bad(-1, 18);
+        bad(Edges.LATEST + 1, -1);
+    }
+
+    private static void questionsChangeNothing() {
+        Edges.leavesAll("members(12, 13)", x -> x.members(12, 13), 1 << 2);
+        Edges.leavesAll("members(5, 0)", x -> x.members(5, 0), 1);
+        Edges.leavesAll("members(4, 0)", x -> x.members(4, 0), RelationTuples.GONE);
+        Edges.leavesAll("members(13, 0)", x -> x.members(13, 0), RelationTuples.BAD);
+    }
+
+    private static void bad(int state, int group) {
+        Due.bad(name(state, group), Edges.usedObject().members(state, group));
+    }
+
+    private static void gone(int state, int group) {
+        Due.gone(name(state, group), Edges.usedObject().members(state, group));
+    }
+
+    private static String name(int state, int group) {
+        return "members(" + state + ", " + group + ") at latest state " + Edges.LATEST;
     }
 }

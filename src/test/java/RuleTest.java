@@ -4,11 +4,17 @@ public final class RuleTest {
         everyCouple();
         rulesInARow();
         ruleOutlivesEntry();
-        changesThatChangeNothing();
-        wrongNumbers();
+        aRuleHoldsOnce();
+        endingWhatDoesNotHold();
+        fromOutside();
+        toOutside();
+        bothOutside();
+        sameRelation();
+        numberOfTheNewState();
         Due.end();
     }
 
+    /** "Makes the rule from relation r to relation s hold or not.": relations 0 to 2. */
     private static void everyCouple() {
         for (int r = 0; r < 3; r++) {
             for (int s = 0; s < 3; s++) {
@@ -59,33 +65,78 @@ public final class RuleTest {
         Due.answer("the rule stays when the entry is struck out", x.members(4, 1), 1);
     }
 
-    private static void changesThatChangeNothing() {
+    /** "Makes the rule from relation r to relation s hold or not.": made twice, ended once. */
+    private static void aRuleHoldsOnce() {
         RelationTuples x = new RelationTuples();
-        Due.answer("ending no rule", x.rule(0, 1, false), 1);
-        Due.answer("sources(1, 1)", x.sources(1, 1), 1 << 1);
-        Due.answer("a rule", x.rule(0, 1, true), 2);
-        Due.answer("the rule again", x.rule(0, 1, true), 3);
-        Due.answer("its end", x.rule(0, 1, false), 4);
-        Due.answer("sources(4, 1)", x.sources(4, 1), 1 << 1);
+        Due.answer("a rule", x.rule(0, 1, true), 1);
+        Due.answer("the rule again", x.rule(0, 1, true), 2);
+        Due.answer("sources(2, 1)", x.sources(2, 1), 0b11);
+        Due.answer("one end suffices", x.rule(0, 1, false), 3);
+        Due.answer("sources(3, 1)", x.sources(3, 1), 0b10);
     }
 
-    private static void wrongNumbers() {
+    /** "Makes the rule from relation r to relation s hold or not.": it did not hold before. */
+    private static void endingWhatDoesNotHold() {
         RelationTuples x = new RelationTuples();
-        int[] wrong = {-1, 3, 32, Integer.MIN_VALUE, Integer.MAX_VALUE};
-        for (int relation : wrong) {
-            Due.answer("rule(" + relation + ", 0, true)", x.rule(relation, 0, true), RelationTuples.BAD);
-            Due.answer("rule(0, " + relation + ", true)", x.rule(0, relation, true), RelationTuples.BAD);
-            Due.answer("rule(" + relation + ", 0, false)", x.rule(relation, 0, false), RelationTuples.BAD);
-            Due.answer("rule(0, " + relation + ", false)", x.rule(0, relation, false), RelationTuples.BAD);
+        Due.answer("ending no rule", x.rule(0, 1, false), 1);
+        Due.answer("sources(1, 1)", x.sources(1, 1), 0b10);
+        x.rule(1, 0, true);
+        Due.answer("ending the other way round", x.rule(0, 1, false), 3);
+        Due.answer("sources(3, 0)", x.sources(3, 0), 0b11);
+        x.rule(2, 1, true);
+        Due.answer("ending a way of two rules", x.rule(2, 0, false), 5);
+        Due.answer("sources(5, 0)", x.sources(5, 0), 0b111);
+    }
+
+    /** "r or s outside 0..2 or r = s: BAD.": r by itself. */
+    private static void fromOutside() {
+        for (int r : Edges.outside(3)) {
+            for (int s = 0; s < 3; s++) {
+                refused(r, s);
+            }
         }
-        for (int relation = 0; relation < 3; relation++) {
-            String same = relation + ", " + relation;
-            Due.answer("rule(" + same + ", true)", x.rule(relation, relation, true), RelationTuples.BAD);
-            Due.answer("rule(" + same + ", false)", x.rule(relation, relation, false), RelationTuples.BAD);
+    }
+
+    /** "r or s outside 0..2 or r = s: BAD.": s by itself. */
+    private static void toOutside() {
+        for (int s : Edges.outside(3)) {
+            for (int r = 0; r < 3; r++) {
+                refused(r, s);
+            }
         }
-        Due.answer("a BAD rule makes no state", x.latest(), 0);
-        for (int group = 0; group < 18; group++) {
-            Due.answer("a BAD rule leads nothing to " + group, x.sources(0, group), 1 << group);
+    }
+
+    /** "r or s outside 0..2 or r = s: BAD.": both outside, and apart. */
+    private static void bothOutside() {
+        refused(-1, 3);
+        refused(3, -1);
+        refused(-1, -2);
+        refused(3, 4);
+    }
+
+    /** "r or s outside 0..2 or r = s: BAD.": the same relation, inside and outside. */
+    private static void sameRelation() {
+        for (int relation = -2; relation <= 4; relation++) {
+            refused(relation, relation);
+        }
+    }
+
+    private static void refused(int r, int s) {
+        String couple = r + ", " + s;
+        Edges.refused("rule(" + couple + ", true)", x -> x.rule(r, s, true));
+        Edges.refused("rule(" + couple + ", false)", x -> x.rule(r, s, false));
+    }
+
+    /** "Else answers the number of the new state.": refused calls between count for nothing. */
+    private static void numberOfTheNewState() {
+        RelationTuples x = new RelationTuples();
+        for (int number = 1; number <= 40; number++) {
+            int r = number % 3;
+            Due.answer("rule as change " + number, x.rule(r, (r + 1) % 3, number % 5 != 0), number);
+            Due.answer("latest() after change " + number, x.latest(), number);
+            Due.bad("rule(3, 0, true) after change " + number, x.rule(3, 0, true));
+            Due.bad("rule(0, -1, false) after change " + number, x.rule(0, -1, false));
+            Due.bad("rule(1, 1, true) after change " + number, x.rule(1, 1, true));
         }
     }
 }
