@@ -5,6 +5,7 @@ public final class CheckTest {
         everyState();
         personOutside();
         groupOutside();
+        bothOutside();
         badComesBeforeGone();
         questionsChangeNothing();
         Due.end();
@@ -36,37 +37,29 @@ public final class CheckTest {
 
     /** "Tested in this order: person outside 0..5, ..": the person by itself. */
     private static void personOutside() {
-        for (int person : Edges.outside(6)) {
-            bad(Edges.LATEST, person, 0);
-            bad(Edges.LATEST, person, 17);
-            bad(Edges.OLDEST, person, 0);
-        }
+        Edges.numberOutside("check of group 0", 6, (x, state, person) -> x.check(state, person, 0));
+        Edges.numberOutside("check of group 17", 6, (x, state, person) -> x.check(state, person, 17));
     }
 
     /** ".. group outside 0..17, ..": the group by itself. */
     private static void groupOutside() {
-        for (int group : Edges.outside(18)) {
-            bad(Edges.LATEST, 0, group);
-            bad(Edges.LATEST, 5, group);
-            bad(Edges.OLDEST, 0, group);
-        }
+        Edges.numberOutside("check of person 0", 18, (x, state, group) -> x.check(state, 0, group));
+        Edges.numberOutside("check of person 5", 18, (x, state, group) -> x.check(state, 5, group));
+    }
+
+    /** "Tested in this order: person outside 0..5, group outside 0..17, ..": both at once. */
+    private static void bothOutside() {
+        Edges.numberOutside("check of group -1", 6, (x, state, person) -> x.check(state, person, -1));
+        Edges.numberOutside("check of group 18", 6, (x, state, person) -> x.check(state, person, 18));
     }
 
     /** "Tested in this order: ..": at a state that is not kept, a wrong person or group is BAD, not GONE. */
     private static void badComesBeforeGone() {
-        for (int state = 0; state <= Edges.NOT_KEPT; state++) {
-            gone(state, 0, 0);
-            gone(state, 5, 17);
-            for (int person : Edges.outside(6)) {
-                bad(state, person, 0);
-            }
-            for (int group : Edges.outside(18)) {
-                bad(state, 0, group);
-            }
-            bad(state, 6, 18);
-        }
-        bad(-1, 6, 18);
-        bad(Edges.LATEST + 1, -1, -1);
+        Edges.badBeforeGone("check of group 0", 6, (x, state, person) -> x.check(state, person, 0));
+        Edges.badBeforeGone("check of person 0", 18, (x, state, group) -> x.check(state, 0, group));
+        RelationTuples x = Edges.usedObject();
+        Due.bad("check(0, 6, 18)", x.check(0, 6, 18));
+        Due.bad("check(4, -1, -1)", x.check(Edges.NOT_KEPT, -1, -1));
     }
 
     private static void questionsChangeNothing() {
@@ -74,17 +67,5 @@ public final class CheckTest {
         Edges.leavesAll("check(12, 0, 0)", x -> x.check(12, 0, 0), 0);
         Edges.leavesAll("check(4, 0, 0)", x -> x.check(4, 0, 0), RelationTuples.GONE);
         Edges.leavesAll("check(13, 0, 0)", x -> x.check(13, 0, 0), RelationTuples.BAD);
-    }
-
-    private static void bad(int state, int person, int group) {
-        Due.bad(name(state, person, group), Edges.usedObject().check(state, person, group));
-    }
-
-    private static void gone(int state, int person, int group) {
-        Due.gone(name(state, person, group), Edges.usedObject().check(state, person, group));
-    }
-
-    private static String name(int state, int person, int group) {
-        return "check(" + state + ", " + person + ", " + group + ") at latest state " + Edges.LATEST;
     }
 }

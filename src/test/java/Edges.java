@@ -19,6 +19,10 @@ final class Edges {
         int ask(RelationTuples x, int state);
     }
 
+    interface QuestionOfTwo {
+        int ask(RelationTuples x, int state, int number);
+    }
+
     private Edges() {
     }
 
@@ -114,6 +118,30 @@ final class Edges {
             IntUnaryOperator want) {
         String call = name + " of state " + state + " at latest state " + latest;
         Due.answer(call, question.ask(x, state), dueAt(state, latest, want));
+    }
+
+    /** A person or group outside 0 .. bound - 1 is BAD at every state that is kept, and where there is no state. */
+    static void numberOutside(String name, int bound, QuestionOfTwo question) {
+        for (int number : outside(bound)) {
+            RelationTuples x = usedObject();
+            for (int state = OLDEST; state <= LATEST + 1; state++) {
+                Due.bad(name + " of " + number + " at state " + state, question.ask(x, state, number));
+            }
+            Due.bad(name + " of " + number + " at state -1", question.ask(x, -1, number));
+        }
+    }
+
+    /** At every state that is not kept, all persons or groups are GONE, but those outside 0 .. bound - 1 are BAD. */
+    static void badBeforeGone(String name, int bound, QuestionOfTwo question) {
+        for (int state = 0; state <= NOT_KEPT; state++) {
+            RelationTuples x = usedObject();
+            for (int number = 0; number < bound; number++) {
+                Due.gone(name + " of " + number + " at state " + state, question.ask(x, state, number));
+            }
+            for (int number : outside(bound)) {
+                Due.bad(name + " of " + number + " at state " + state, question.ask(x, state, number));
+            }
+        }
     }
 
     static RelationTuples after(int changes, Change change) {

@@ -56,23 +56,12 @@ public final class GroupsTest {
 
     /** "Tested in this order: person outside 0..5 ..: BAD" */
     private static void personOutside() {
-        for (int person : Edges.outside(6)) {
-            bad(Edges.LATEST, person);
-            bad(Edges.OLDEST, person);
-        }
+        Edges.numberOutside("groups", 6, RelationTuples::groups);
     }
 
     /** "Tested in this order: ..": at a state that is not kept, a wrong person is BAD, not GONE. */
     private static void badComesBeforeGone() {
-        for (int state = 0; state <= Edges.NOT_KEPT; state++) {
-            gone(state, 0);
-            gone(state, 5);
-            for (int person : Edges.outside(6)) {
-                bad(state, person);
-            }
-        }
-        bad(-1, 6);
-        bad(Edges.LATEST + 1, -1);
+        Edges.badBeforeGone("groups", 6, RelationTuples::groups);
     }
 
     private static void questionsChangeNothing() {
@@ -80,17 +69,5 @@ public final class GroupsTest {
         Edges.leavesAll("groups(12, 1)", x -> x.groups(12, 1), 0);
         Edges.leavesAll("groups(4, 0)", x -> x.groups(4, 0), RelationTuples.GONE);
         Edges.leavesAll("groups(13, 0)", x -> x.groups(13, 0), RelationTuples.BAD);
-    }
-
-    private static void bad(int state, int person) {
-        Due.bad(name(state, person), Edges.usedObject().groups(state, person));
-    }
-
-    private static void gone(int state, int person) {
-        Due.gone(name(state, person), Edges.usedObject().groups(state, person));
-    }
-
-    private static String name(int state, int person) {
-        return "groups(" + state + ", " + person + ") at latest state " + Edges.LATEST;
     }
 }

@@ -55,23 +55,12 @@ public final class MembersTest {
 
     /** "Tested in this order: group outside 0..17 ..: BAD" */
     private static void groupOutside() {
-        for (int group : Edges.outside(18)) {
-            bad(Edges.LATEST, group);
-            bad(Edges.OLDEST, group);
-        }
+        Edges.numberOutside("members", 18, RelationTuples::members);
     }
 
     /** "Tested in this order: ..": at a state that is not kept, a wrong group is BAD, not GONE. */
     private static void badComesBeforeGone() {
-        for (int state = 0; state <= Edges.NOT_KEPT; state++) {
-            gone(state, 0);
-            gone(state, 17);
-            for (int group : Edges.outside(18)) {
-                bad(state, group);
-            }
-        }
-        bad(-1, 18);
-        bad(Edges.LATEST + 1, -1);
+        Edges.badBeforeGone("members", 18, RelationTuples::members);
     }
 
     private static void questionsChangeNothing() {
@@ -79,17 +68,5 @@ public final class MembersTest {
         Edges.leavesAll("members(5, 0)", x -> x.members(5, 0), 1);
         Edges.leavesAll("members(4, 0)", x -> x.members(4, 0), RelationTuples.GONE);
         Edges.leavesAll("members(13, 0)", x -> x.members(13, 0), RelationTuples.BAD);
-    }
-
-    private static void bad(int state, int group) {
-        Due.bad(name(state, group), Edges.usedObject().members(state, group));
-    }
-
-    private static void gone(int state, int group) {
-        Due.gone(name(state, group), Edges.usedObject().members(state, group));
-    }
-
-    private static String name(int state, int group) {
-        return "members(" + state + ", " + group + ") at latest state " + Edges.LATEST;
     }
 }

@@ -81,6 +81,7 @@ public final class NestTest {
         x.enter(0, 0, true);
         x.nest(0, 1, true);
         x.rule(0, 1, true);
+        Due.answer("an entry and then a rule", x.members(3, 1), 1);
         x.rule(0, 1, false);
         Due.answer("the entry stays when the rule ends", x.members(4, 1), 1);
     }

@@ -61,6 +61,7 @@ public final class RuleTest {
         x.enter(0, 0, true);
         x.rule(0, 1, true);
         x.nest(0, 1, true);
+        Due.answer("a rule and then an entry", x.members(3, 1), 1);
         x.nest(0, 1, false);
         Due.answer("the rule stays when the entry is struck out", x.members(4, 1), 1);
     }

@@ -111,23 +111,12 @@ public final class SourcesTest {
 
     /** "Tested in this order: group outside 0..17 ..: BAD" */
     private static void groupOutside() {
-        for (int group : Edges.outside(18)) {
-            bad(Edges.LATEST, group);
-            bad(Edges.OLDEST, group);
-        }
+        Edges.numberOutside("sources", 18, RelationTuples::sources);
     }
 
     /** "Tested in this order: ..": at a state that is not kept, a wrong group is BAD, not GONE. */
     private static void badComesBeforeGone() {
-        for (int state = 0; state <= Edges.NOT_KEPT; state++) {
-            gone(state, 0);
-            gone(state, 17);
-            for (int group : Edges.outside(18)) {
-                bad(state, group);
-            }
-        }
-        bad(-1, 18);
-        bad(Edges.LATEST + 1, -1);
+        Edges.badBeforeGone("sources", 18, RelationTuples::sources);
     }
 
     private static void questionsChangeNothing() {
@@ -135,17 +124,5 @@ public final class SourcesTest {
         Edges.leavesAll("sources(5, 4)", x -> x.sources(5, 4), 1 | (1 << 4));
         Edges.leavesAll("sources(4, 0)", x -> x.sources(4, 0), RelationTuples.GONE);
         Edges.leavesAll("sources(13, 0)", x -> x.sources(13, 0), RelationTuples.BAD);
-    }
-
-    private static void bad(int state, int group) {
-        Due.bad(name(state, group), Edges.usedObject().sources(state, group));
-    }
-
-    private static void gone(int state, int group) {
-        Due.gone(name(state, group), Edges.usedObject().sources(state, group));
-    }
-
-    private static String name(int state, int group) {
-        return "sources(" + state + ", " + group + ") at latest state " + Edges.LATEST;
     }
 }
