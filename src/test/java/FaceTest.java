@@ -17,6 +17,7 @@ public final class FaceTest {
         Class<?> type = RelationTuples.class;
         Due.answer("BAD", RelationTuples.BAD, -1);
         Due.answer("GONE", RelationTuples.GONE, -2);
+        Due.holds("BAD and GONE tell wrong arguments from old states", tell(-1).equals("BAD") && tell(-2).equals("GONE"));
         Due.answer("modifiers of the class", type.getModifiers(), Modifier.PUBLIC | Modifier.FINAL);
         Due.holds("the class has no package", type.getPackageName().isEmpty());
         Due.holds("the class extends Object alone",
@@ -28,11 +29,24 @@ public final class FaceTest {
         Due.end();
     }
 
+    /** Only compile-time constants may stand as labels: the compiler refuses this test if they are none. */
+    private static String tell(int answer) {
+        switch (answer) {
+            case RelationTuples.BAD:
+                return "BAD";
+            case RelationTuples.GONE:
+                return "GONE";
+            default:
+                return "";
+        }
+    }
+
     private static void constructor(Class<?> type) {
         Constructor<?>[] all = type.getDeclaredConstructors();
         Due.answer("constructors", all.length, 1);
         Due.answer("parameters of the constructor", all[0].getParameterCount(), 0);
         Due.answer("modifiers of the constructor", all[0].getModifiers(), Modifier.PUBLIC);
+        Due.answer("exceptions of the constructor", all[0].getExceptionTypes().length, 0);
     }
 
     private static String signature(Method method) {
@@ -53,6 +67,7 @@ public final class FaceTest {
                 open.add(signature(method));
                 openNames.add(method.getName());
                 Due.answer("modifiers of " + method.getName(), method.getModifiers(), Modifier.PUBLIC);
+                Due.answer("exceptions of " + method.getName(), method.getExceptionTypes().length, 0);
             }
         }
         Due.holds("the methods are those of the document: " + open, open.equals(METHODS));

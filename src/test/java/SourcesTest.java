@@ -8,6 +8,7 @@ public final class SourcesTest {
         itself();
         itselfOnARing();
         however();
+        asPersonsShow();
         allGroups();
         everyState();
         groupOutside();
@@ -84,6 +85,27 @@ public final class SourcesTest {
         Due.answer("everybody entered: sources(9, 7)", x.sources(9, 7), 1 | (1 << 7));
         x.nest(0, 7, false);
         Due.answer("everybody entered, no way: sources(10, 7)", x.sources(10, 7), 1 << 7);
+    }
+
+    /**
+     * "The groups whose members all belong to a group in a state however the persons were entered": a person
+     * entered in one group alone belongs to those groups, and to no others, that have this one among their sources.
+     */
+    private static void asPersonsShow() {
+        for (int source = 0; source < 18; source++) {
+            RelationTuples x = new RelationTuples();
+            x.nest(2, 3, true);
+            x.nest(4, 9, true);
+            x.nest(11, 0, true);
+            x.nest(17, 16, true);
+            x.rule(0, 1, true);
+            x.rule(1, 2, true);
+            x.enter(1, source, true);
+            for (int group = 0; group < 18; group++) {
+                int leads = (x.sources(7, group) >> source) & 1;
+                Due.answer("entered in " + source + ": check(7, 1, " + group + ")", x.check(7, 1, group), leads);
+            }
+        }
     }
 
     /** ".. as a set": the full set, by entries alone and by entries and rules. */
