@@ -17,7 +17,8 @@ public final class FaceTest {
         Class<?> type = RelationTuples.class;
         Due.answer("BAD", RelationTuples.BAD, -1);
         Due.answer("GONE", RelationTuples.GONE, -2);
-        Due.holds("BAD and GONE tell wrong arguments from old states", tell(-1).equals("BAD") && tell(-2).equals("GONE"));
+        Due.holds("-1 is told as BAD", tell(-1).equals("BAD"));
+        Due.holds("-2 is told as GONE", tell(-2).equals("GONE"));
         Due.answer("modifiers of the class", type.getModifiers(), Modifier.PUBLIC | Modifier.FINAL);
         Due.holds("the class has no package", type.getPackageName().isEmpty());
         Due.holds("the class extends Object alone",

@@ -77,7 +77,8 @@ public final class LanguageTest extends TreePathScanner<Void, Void> {
     public static void main(String[] args) throws IOException {
         JavaCompiler compiler = ToolProvider.getSystemJavaCompiler();
         try (StandardJavaFileManager files = compiler.getStandardFileManager(null, null, null)) {
-            JavacTask task = (JavacTask) compiler.getTask(null, files, null, null, null, files.getJavaFileObjects(SOURCE));
+            JavacTask task =
+                    (JavacTask) compiler.getTask(null, files, null, null, null, files.getJavaFileObjects(SOURCE));
             SourcePositions positions = Trees.instance(task).getSourcePositions();
             for (CompilationUnitTree unit : task.parse()) {
                 LanguageTest test = new LanguageTest(unit, positions);
@@ -92,7 +93,8 @@ public final class LanguageTest extends TreePathScanner<Void, Void> {
         Due.answer("rule 1: classes in the file", classes, 1);
         Due.holds("rule 10: at most forty fields beside constants, not " + fields, fields <= 40);
         for (String name : callsOf.keySet()) {
-            Due.holds("rule 3: what " + name + " calls is of the class", callsOf.keySet().containsAll(callsOf.get(name)));
+            boolean known = callsOf.keySet().containsAll(callsOf.get(name));
+            Due.holds("rule 3: what " + name + " calls is of the class", known);
             Due.holds("rules 8 and 10: calls from " + name + " end, at most six deep", depth(name, 1) <= 6);
         }
     }
