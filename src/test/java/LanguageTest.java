@@ -39,7 +39,8 @@ import javax.tools.ToolProvider;
 
 /**
  * The rules of LANGUAGE.md that the source shows. Where a rule leaves room that the class does not use, the test
- * is narrower than the rule: arrays are fields alone, and each loop counts to a constant.
+ * is narrower than the rule: arrays are final fields made where they are declared, each loop counts to a constant,
+ * each divisor is a constant, and no two methods share a name.
  */
 public final class LanguageTest extends TreePathScanner<Void, Void> {
     private static final Path SOURCE = Path.of("src/main/java/RelationTuples.java");
